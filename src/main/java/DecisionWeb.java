@@ -24,6 +24,12 @@ public final class DecisionWeb {
     private static final int MOST_JOINS = 15;
     private static final int MOST_ASSIGNMENTS = 1 << MOST_LETTERS;
 
+    /**
+     * The most FORKS that so many LETTERS let 32 REGISTERS have: at LEVEL k no more than 32 times 2 to
+     * the k, nor more than there are FUNCTIONS of the LETTERS left that differ by the first of them.
+     */
+    private static final int[] MOST_FORKS = {0, 2, 14, 46, 110, 238, 478, 734, 1246, 2270, 4318, 8414, 16606};
+
     /** The table in which a call makes its FUNCTION ahead of knowing whether it may be kept. */
     private static final int SPARE = REGISTERS;
     /** A table that stays all no: there the POINTER rests. */
@@ -197,16 +203,7 @@ public final class DecisionWeb {
         for (int k = levelOf(v) - 1; k >= 0; k--) {
             turn(k);
         }
-        int best = 0;
-        int fewest = forksOfAll();
-        for (int k = 1; k < letterCount; k++) {
-            turn(k - 1);
-            int forks = forksOfAll();
-            if (forks < fewest) {
-                fewest = forks;
-                best = k;
-            }
-        }
+        int best = bestLevelGoingDown();
         for (int k = letterCount - 2; k >= best; k--) {
             turn(k);
         }
@@ -502,7 +499,8 @@ public final class DecisionWeb {
 
     /** REGISTER r becomes what the spare table is, if there is room for it. */
     private int keep(int r) {
-        if (survey.forksOf(tables, 0, REGISTERS - 1, r, letterCount) > capacity) {
+        if (capacity < MOST_FORKS[letterCount]
+                && survey.forksOf(tables, 0, REGISTERS - 1, r, letterCount) > capacity) {
             return OVER_CAPACITY;
         }
         System.arraycopy(tables[SPARE], 0, tables[r], 0, words);
@@ -516,6 +514,30 @@ public final class DecisionWeb {
 
     private int forksOfOne(int a) {
         return survey.forksOf(tables, a, a, NONE, letterCount);
+    }
+
+    /**
+     * Leads the first LEVEL's LETTER down to the last: the LEVEL at which FORKS were fewest. Each step
+     * changes the WIDTHS of two LEVELS alone, and what is below the one above them stays listed.
+     */
+    private int bestLevelGoingDown() {
+        int forks = forksOfAll();
+        int fewest = forks;
+        int best = 0;
+        int ownWidth = survey.widths[0];
+        survey.list(tables, 0, REGISTERS - 1, NONE, letterCount);
+        for (int k = 1; k < letterCount; k++) {
+            int before = ownWidth + survey.widths[k];
+            turn(k - 1);
+            int passedWidth = survey.cut(tables, 1 << placeAt(k - 1));
+            ownWidth = survey.forksListed(tables, 1 << placeAt(k));
+            forks += passedWidth + ownWidth - before;
+            if (forks < fewest) {
+                fewest = forks;
+                best = k;
+            }
+        }
+        return best;
     }
 
     /** The LETTERS of LEVELS k and k + 1 change places; done twice it is undone. */
@@ -582,6 +604,8 @@ public final class DecisionWeb {
     private static final class Bits {
         private static final int WORD_SHIFT = 6;
         private static final int WORD_BITS = 64;
+        /** An odd number whose digits are mixed well. */
+        private static final long SPREAD = 0x9E3779B97F4A7C15L;
 
         /** The bits of a word whose number has a 1 at a place. */
         private static final long[] ONE_AT = {
@@ -667,21 +691,17 @@ public final class DecisionWeb {
         /** A number that parts which are the same have in common, and others hardly. */
         private static int hash(long[] table, int start, int length) {
             if (length < WORD_BITS) {
-                return blend(0L, shortPart(table, start, length));
+                return (int) (shortPart(table, start, length) * SPREAD >>> WORD_BITS / 2);
             }
             int first = start >> WORD_SHIFT;
             int count = length >> WORD_SHIFT;
-            int hash = 0;
+            long hash = 0L;
             for (int j = 0; j < count; j++) {
-                hash = blend(hash, table[first + j]);
+                hash = (hash ^ table[first + j]) * SPREAD;
+                // a product hands its low bits on to the high ones, never back
+                hash ^= hash >>> WORD_BITS / 2;
             }
-            return hash;
-        }
-
-        private static int blend(long hash, long word) {
-            long mixed = (hash * 31L + word) * 0x9E3779B97F4A7C15L;
-            mixed = (mixed ^ mixed >>> 32) * 0x9E3779B97F4A7C15L;
-            return (int) (mixed >>> 32);
+            return (int) hash;
         }
 
         /** The LETTERS of two places change places in the table. */
@@ -759,14 +779,32 @@ public final class DecisionWeb {
 
         /** The FORKS of the tables from first to last, the spare one standing in for table replaced. */
         private int forksOf(long[][] tables, int first, int last, int replaced, int letterCount) {
-            clear(last - first + 1);
-            for (int t = first; t <= last; t++) {
-                find(tables, t == replaced ? SPARE : t, 0, 1 << letterCount);
-            }
+            list(tables, first, last, replaced, letterCount);
             int forks = 0;
             for (int k = 0; k < letterCount; k++) {
                 widths[k] = cut(tables, 1 << letterCount - 1 - k);
                 forks += widths[k];
+            }
+            return forks;
+        }
+
+        /** Lists the FUNCTIONS of these tables themselves. */
+        private void list(long[][] tables, int first, int last, int replaced, int letterCount) {
+            clear(last - first + 1);
+            for (int t = first; t <= last; t++) {
+                find(tables, t == replaced ? SPARE : t, 0, 1 << letterCount);
+            }
+        }
+
+        /** How many of those listed differ by the LETTER of their LEVEL. */
+        private int forksListed(long[][] tables, int half) {
+            int forks = 0;
+            for (int i = 0; i < foundCount; i++) {
+                long[] table = tables[found[i] >> MOST_LETTERS];
+                int start = found[i] & MOST_ASSIGNMENTS - 1;
+                if (!Bits.alike(table, start, table, start + half, half)) {
+                    forks++;
+                }
             }
             return forks;
         }

@@ -39,6 +39,8 @@ public final class PromisesTest {
         promise29Count();
         aDozenLetters();
         oneLetter();
+        allOfTwoLetters(14, 0);
+        allOfTwoLetters(13, 1);
         CHECK.end();
     }
 
@@ -601,6 +603,8 @@ public final class PromisesTest {
         web.cost(1, 4);
         due("cheapest(3)", web.cheapest(3), 2);
         due("cheapest(31)", web.cheapest(31), -1);
+        web.constant(31, true);
+        due("cheapest(31)", web.cheapest(31), 0);
         for (int r : NO_REGISTER) {
             due("cheapest a", web.cheapest(r), -2);
         }
@@ -618,6 +622,12 @@ public final class PromisesTest {
         due("dearest(31)", web.dearest(31), -1);
         web.constant(31, true);
         due("dearest(31)", web.dearest(31), 1000009);
+        web.join(4, 3, 2, 14);
+        web.join(4, 4, 4, 1);
+        due("letters 0 and 1 alike, 2 not", web.dearest(4), 9);
+        web.join(4, 0, 1, 1);
+        web.join(4, 4, 2, 2);
+        due("dearest(4), none of them being 1", web.dearest(4), 0);
         for (int r : NO_REGISTER) {
             due("dearest a", web.dearest(r), -2);
         }
@@ -741,6 +751,9 @@ public final class PromisesTest {
             callRefused(web, i);
             due("at() behind " + done[i] + " that was refused", web.at(), 3);
         }
+        due("the pointer does not rest at a register", web.letter(31, 4), 0);
+        due("at()", web.at(), -2);
+        web.point(0);
         web.cost(3, 4);
         web.same(0, 1);
         web.pick(0, 3);
@@ -828,6 +841,11 @@ public final class PromisesTest {
         web.copy(20, 4);
         due("count(2)", web.count(2), 8);
         due("count(3)", web.count(3), 6);
+        due("fresh(4, 2)", web.fresh(4, 2), true);
+        web.letter(31, 3);
+        web.letter(0, 2);
+        due("count(2): the first and the last register count too", web.count(2), 2);
+        due("letter(1, 1)", web.letter(1, 1), -8);
         int[] other = {-1, 4, LEAST, MOST};
         for (int what : other) {
             due("count(" + what + ")", web.count(what), -1);
@@ -876,6 +894,18 @@ public final class PromisesTest {
         due("swap(11)", web.swap(11), -2);
         due("level(11, 0)", web.level(11, 0), 10);
         due("sift(11)", web.sift(11), 0);
+        web.join(24, 0, 11, 2);
+        for (int v = 1; v < 11; v++) {
+            // letter 11 goes through all levels, and the function stays
+            due("swap", web.swap(v - 1), 0);
+            due("level(v, 0)", web.level(v, 0), 11);
+            due("pick(24, 1023)", web.pick(24, 1023), 2047);
+            due("trade", web.trade(25, 24, v, 11), 0);
+            due("letters", web.letters(25), 1 | 1 << v);
+            due("pick", web.pick(25, 0), 1);
+            due("trade back", web.trade(25, 25, 11, v), 0);
+            due("same(25, 24)", web.same(25, 24), 1);
+        }
     }
 
     private static void oneLetter() {
@@ -891,5 +921,18 @@ public final class PromisesTest {
         due("width(0, 0)", web.width(0, 0), 1);
         due("sum(0, 0, 1, true)", web.sum(0, 0, 1, true), 0);
         due("many(0)", web.many(0), 0);
+    }
+
+    /** All 16 functions of two letters have 14 forks, the most that there can be. */
+    private static void allOfTwoLetters(int capacity, int refused) {
+        DecisionWeb web = house(2, capacity);
+        web.copy(16, 0);
+        web.copy(17, 1);
+        int got = 0;
+        for (int table = 0; table < 16; table++) {
+            got += web.join(table, 16, 17, table) == -8 ? 1 : 0;
+        }
+        due("how many of them are refused", got, refused);
+        due("count(2)", web.count(2), 14 - refused);
     }
 }
