@@ -203,7 +203,7 @@ public final class DecisionWeb {
         for (int k = levelOf(v) - 1; k >= 0; k--) {
             turn(k);
         }
-        int best = bestLevelGoingDown();
+        int best = bestLevelGoingDown(forksOfAll());
         for (int k = letterCount - 2; k >= best; k--) {
             turn(k);
         }
@@ -517,11 +517,12 @@ public final class DecisionWeb {
     }
 
     /**
-     * Leads the first LEVEL's LETTER down to the last: the LEVEL at which FORKS were fewest. Each step
-     * changes the WIDTHS of two LEVELS alone, and what is below the one above them stays listed.
+     * Leads the first LEVEL's LETTER down to the last: the LEVEL at which FORKS were fewest. They have
+     * just been counted, so that the survey has the WIDTHS. Each step changes those of two LEVELS alone,
+     * and what is below the one above them stays listed.
      */
-    private int bestLevelGoingDown() {
-        int forks = forksOfAll();
+    private int bestLevelGoingDown(int forksAtFirst) {
+        int forks = forksAtFirst;
         int fewest = forks;
         int best = 0;
         int ownWidth = survey.widths[0];

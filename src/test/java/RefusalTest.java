@@ -1,3 +1,5 @@
+import java.util.ArrayList;
+import java.util.List;
 import java.util.Random;
 
 /**
@@ -23,6 +25,7 @@ public final class RefusalTest {
         asManyForksAsCapacity();
         oneForkMoreThanCapacity();
         capacityOfGrowingHouses();
+        asManyForksAsThereCanBe();
         refusedForRangeChangesNothing();
         refusedForNothingAllowedChangesNothing();
         refusedForCapacityChangesNothing();
@@ -206,6 +209,78 @@ public final class RefusalTest {
             }
         }
         return GROWTH;
+    }
+
+    /** The last fork that so many letters let 32 registers have still needs its room. */
+    private static void asManyForksAsThereCanBe() {
+        CHECK.about("There may be as many as CAPACITY (and no web that is so great is let through uncounted)");
+        // of 6, 7, 11 and 12 letters chance finds them too late or never
+        for (int n : new int[] {1, 2, 3, 4, 5, 8, 9, 10}) {
+            int most = mostForks(n);
+            List<Call> calls = callsThatLeadTo(most, n);
+            Call last = calls.remove(calls.size() - 1);
+            DecisionWeb tooSmall = behind(calls, n, most - 1);
+            int forks = tooSmall.count(2);
+            CHECK.due(last + " of " + n + " letters with room for " + (most - 1), last.answer(tooSmall), -8);
+            CHECK.due("count(2) behind it", tooSmall.count(2), forks);
+            DecisionWeb great = behind(calls, n, most);
+            CHECK.due(last + " of " + n + " letters with room for " + most, last.answer(great), 0);
+            CHECK.due("count(2) behind it", great.count(2), most);
+        }
+    }
+
+    /** At each level no more than there are functions below 32, nor than functions that differ by its letter. */
+    private static int mostForks(int n) {
+        int most = 0;
+        for (int k = 0; k < n; k++) {
+            int left = n - k;
+            int below = 32 << k;
+            most += left > 3 ? below : Math.min(below, (1 << (1 << left)) - (1 << (1 << left - 1)));
+        }
+        return most;
+    }
+
+    /** Calls by chance, of which those stay that make the forks more. */
+    private static List<Call> callsThatLeadTo(int most, int n) {
+        Random chance = new Random(0);
+        List<Call> calls = new ArrayList<>();
+        DecisionWeb web = behind(calls, n, House.ROOMY);
+        int forks = web.count(2);
+        for (int tried = 0; forks < most && tried < 100000; tried++) {
+            Call call = callByChance(chance, n);
+            call.answer(web);
+            if (web.count(2) > forks) {
+                forks = web.count(2);
+                calls.add(call);
+            } else {
+                web = behind(calls, n, House.ROOMY);
+            }
+        }
+        CHECK.due("the most forks of " + n + " letters", forks, most);
+        return calls;
+    }
+
+    private static Call callByChance(Random chance, int n) {
+        int r = chance.nextInt(32);
+        int a = chance.nextInt(32);
+        int b = chance.nextInt(32);
+        int c = chance.nextInt(32);
+        return switch (chance.nextInt(3)) {
+            case 0 -> new Call("fork", "RRRR", r, a, b, c);
+            case 1 -> new Call("join", "RRRT", r, a, b, c % 16);
+            default -> new Call("trade", "RRVV", r, a, b % n, c % n);
+        };
+    }
+
+    private static DecisionWeb behind(List<Call> calls, int n, int capacity) {
+        DecisionWeb web = House.empty(n, capacity);
+        for (int r = 0; r < 32; r++) {
+            web.letter(r, r % n);
+        }
+        for (Call call : calls) {
+            CHECK.due(call.toString(), call.answer(web), 0);
+        }
+        return web;
     }
 
     private static void dueUnchanged(Call call, int answer) {
